@@ -1,0 +1,239 @@
+/** Promises 43 to 47: images, counts, status; and that a finding changes nothing else. */
+public final class ImagesTest {
+    private static final Due due = new Due("ImagesTest");
+
+    public static void main(String[] args) {
+        undoOfAll();
+        undoKeepsTapeAndSheets();
+        imageAgain();
+        undoOfTexts();
+        tear();
+        count();
+        status();
+        findingsChangeNothing();
+        due.end();
+    }
+
+    private static void undoOfAll() {
+        AwakeBoard x = new AwakeBoard();
+        due.is("44 nothing is kept", x.undo(), Due.NONE);
+        x.name(0, 30);
+        x.name(6, 40);
+        x.go(7);
+        x.asked(0);
+        x.hold(3, 1);
+        x.shut(1, true);
+        x.seed(99);
+        due.is("43 image", x.image(), 1);
+        x.name(1, 5);
+        x.change(0, 1, 3);
+        x.change(1, 4, 0);
+        x.shut(1, false);
+        x.shut(0, true);
+        x.asked(1);
+        x.hold(3, -1);
+        x.hold(4, 0);
+        x.seed(5);
+        x.say(0, 8);
+        x.go(999);
+        due.is("44 undo", x.undo(), 7);
+        int[] want = {2, 7, 2, 0, 0, 0, 1, 1, 99};
+        for (int what = 0; what <= 8; what++) {
+            due.is("44 count(" + what + ")", x.count(what), want[what]);
+        }
+        due.is("44 gap", x.nameOf(0, 1), 30);
+        due.is("44 leader", x.nameOf(1, 4), -1);
+        due.is("44 shut", x.nameOf(1, 6), 1);
+        due.is("44 asked", x.asked(0), Due.STATE);
+        due.is("44 spot 3", x.as(3, 6), 1);
+        due.is("44 spot 4", x.as(4, 0), Due.MISSING);
+        due.is("44 status stays", x.status(-1), 3);
+        due.is("44 no name 2", x.nameOf(2, 0), Due.BEYOND);
+        due.is("44 word 1", x.wordOf(1, 1), 1);
+        due.is("44 no word 2", x.wordOf(2, 0), Due.BEYOND);
+    }
+
+    private static void undoKeepsTapeAndSheets() {
+        AwakeBoard x = new AwakeBoard();
+        x.name(0, 30);
+        x.feed('w', 1);
+        x.sheet(0, 8, 2);
+        x.image();
+        x.feed('+', 1);
+        x.feed('1', 1);
+        x.sheet(0, 0, 0);
+        x.sheet(1, 16, 4);
+        x.undo();
+        due.is("44 the tape stays", x.count(5), 3);
+        due.is("44 sheet 0 stays missing", x.load(0), Due.MISSING);
+        due.is("44 sheet 1 stays", x.load(1), 2);
+        due.is("44 text", x.text(), 0);
+        due.is("44 score", x.score(0, 0), 3);
+    }
+
+    private static void imageAgain() {
+        AwakeBoard x = new AwakeBoard();
+        x.name(0, 30);
+        x.image();
+        x.go(5);
+        x.image();
+        x.go(5);
+        due.is("44 the latest", x.undo(), 5);
+        x.go(3);
+        due.is("44 it stays", x.undo(), 5);
+        x.change(0, 5, 4);
+        x.say(0, 9);
+        x.hold(0, 0);
+        due.is("44 what is kept doesn't change", x.undo(), 5);
+        due.is("44 topic", x.nameOf(0, 5), 0);
+        due.is("44 words", x.count(2), 1);
+        due.is("44 spot", x.as(0, 0), Due.MISSING);
+    }
+
+    private static void undoOfTexts() {
+        AwakeBoard x = new AwakeBoard();
+        x.name(0, 30);
+        Due.text(x, "1+1");
+        x.image();
+        Due.text(x, "2+2");
+        due.is("44 two texts", x.count(4), 2);
+        x.undo();
+        due.is("44 one text", x.count(4), 1);
+        due.is("44 no text 1", x.score(1, 0), Due.BEYOND);
+        Due.text(x, "33");
+        due.is("44 another text 1", x.score(1, 0), 33);
+        due.is("44 text 0", x.score(0, 0), 2);
+    }
+
+    private static void tear() {
+        AwakeBoard x = new AwakeBoard();
+        due.is("45 nothing", x.tear(), 0);
+        x.image();
+        x.go(4);
+        due.is("45 something", x.tear(), 1);
+        due.is("45 nothing more", x.tear(), 0);
+        due.is("44 nothing is kept", x.undo(), Due.NONE);
+        due.is("45 NOW stays", x.count(1), 4);
+        x.image();
+        x.go(1);
+        due.is("44 kept again", x.undo(), 4);
+    }
+
+    private static void count() {
+        AwakeBoard x = new AwakeBoard();
+        x.name(0, 1);
+        x.name(0, 1);
+        x.name(1, 500);
+        x.go(101);
+        x.shut(2, true);
+        x.asked(0);
+        x.asked(1);
+        Due.text(x, "w");
+        x.feed(0, 4);
+        x.seed(-77);
+        int[] want = {3, 101, 200, 3, 1, 4, 1, 2, -77};
+        for (int what = 0; what <= 8; what++) {
+            due.is("46 count(" + what + ")", x.count(what), want[what]);
+        }
+        due.is("46 what 9", x.count(9), Due.BEYOND);
+        due.is("46 what -1", x.count(-1), Due.BEYOND);
+        due.is("46 most", x.count(Due.MOST), Due.BEYOND);
+        x.seed(Due.FULL);
+        due.is("46 z like a finding", x.count(8), Due.FULL);
+        due.is("46 that is none", x.status(-1), 3);
+    }
+
+    private static void status() {
+        AwakeBoard x = new AwakeBoard();
+        x.go(0);
+        for (int i = 0; i < 27; i++) {
+            x.feed(0, 3);
+        }
+        x.name(0, 1);
+        x.hold(0, 0);
+        x.as(0, 7);
+        x.as(0, 1);
+        x.as(0, 5);
+        x.first(0);
+        x.first(1);
+        x.asked(0);
+        x.asked(0);
+        x.load(0);
+        x.load(1);
+        x.load(2);
+        x.load(3);
+        x.sheet(0, 8, -1);
+        x.sheet(0, 8, -1);
+        int[] want = {1, 1, 3, 2, 1, 4, 2};
+        for (int which = 0; which <= 6; which++) {
+            due.is("47 status(" + which + ")", x.status(which), want[which]);
+        }
+        due.is("47 all", x.status(-1), 14);
+        due.is("47 which 7", x.status(7), Due.BEYOND);
+        due.is("47 counted from then on", x.status(0), 2);
+        due.is("47 which -2", x.status(-2), Due.BEYOND);
+        due.is("47 all", x.status(-1), 16);
+        x.image();
+        x.go(0);
+        x.undo();
+        due.is("47 undo takes none back", x.status(-1), 17);
+    }
+
+    private static AwakeBoard busy() {
+        AwakeBoard x = new AwakeBoard();
+        for (int kind = 0; kind < 14; kind++) {
+            x.name(kind % 8, 3 + kind);
+        }
+        x.go(300);
+        for (int i = 0; i < 6; i++) {
+            Due.text(x, "w-" + i);
+        }
+        x.asked(4);
+        x.hold(2, 2);
+        x.sheet(0, 8, 10);
+        x.sheet(1, 16, 10);
+        Due.feed(x, "w+g");
+        for (int i = 0; i < 19; i++) {
+            x.feed(0x20202020, 4);
+        }
+        return x;
+    }
+
+    private static long stateOf(AwakeBoard x) {
+        long sum = 17;
+        for (int what = 0; what <= 8; what++) {
+            sum = sum * 31 + x.count(what);
+        }
+        for (int name = 0; name < 14; name++) {
+            for (int what = 0; what <= 7; what++) {
+                sum = sum * 31 + x.nameOf(name, what);
+            }
+        }
+        for (int word = 0; word < x.count(2); word += 7) {
+            sum = sum * 31 + x.wordOf(word, 1) * 100 + x.wordOf(word, 2);
+        }
+        for (int s = 0; s < 2; s++) {
+            sum = sum * 31 + x.judge(s);
+        }
+        return sum;
+    }
+
+    private static void findingsChangeNothing() {
+        AwakeBoard x = busy();
+        long before = stateOf(x);
+        int findings = x.status(-1);
+        int told = 0;
+        int[] answers = {
+            x.name(0, 5), x.name(9, 5), x.change(3, 1, 0), x.change(3, 4, 3), x.shut(14, true), x.go(1000),
+            x.say(0, 1), x.feed(1, 4), x.feed(1, 0), x.text(), x.shutAll(6, 0), x.asked(4), x.sample(100),
+            x.hold(10, 1), x.hold(0, 14), x.sheet(0, 8, -1), x.sheet(0, 8, 41), x.sheet(0, 9, 1), x.write(0, 10, 1),
+            x.write(2, 0, 1), x.copy(0, 0, 1, 0, 1), x.copy(0, 0, 0, 5, 6), x.load(2), x.undo(), x.next(3, -1),
+        };
+        for (int answer : answers) {
+            due.is("a finding " + told, answer <= Due.BEYOND && answer >= Due.SIZE ? 1 : 0, 1);
+            told++;
+        }
+        due.is("nothing changes", stateOf(x) == before ? 1 : 0, 1);
+        due.is("all are counted", x.status(-1), findings + told);
+    }
+}
