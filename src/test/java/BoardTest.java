@@ -135,6 +135,38 @@ public final class BoardTest {
         y.go(1);
         due.is("9 speaks in second 1", y.wordOf(2, 0), 1);
         due.is("9 the leader's topic", y.wordOf(2, 2), 2);
+        tellsBehindNameZero();
+    }
+
+    private static void tellsBehindNameZero() {
+        AwakeBoard x = new AwakeBoard();
+        x.name(0, 999);
+        x.name(6, 999);
+        x.name(1, 999);
+        x.change(0, 5, 3);
+        x.change(1, 4, 0);
+        x.change(2, 4, 0);
+        x.change(2, 5, 8);
+        x.go(2);
+        // In second 0 all three, in second 1 the clubbed one, which is behind its leader.
+        due.is("9 words", x.count(2), 4);
+        due.is("9 a leader's word of the same second", x.wordOf(1, 2), 3);
+        due.is("9 a leader leads the clubbed alone", x.wordOf(2, 2), 8);
+        due.is("9 word 0 is the leader's latest", x.wordOf(3, 2), 3);
+        x.say(0, 6);
+        x.say(2, 1);
+        x.go(2);
+        due.is("9 its leader's latest by hand", x.wordOf(6, 2), 6);
+        AwakeBoard y = new AwakeBoard();
+        y.name(0, 999);
+        y.name(6, 999);
+        y.name(0, 999);
+        y.shut(2, true);
+        y.change(0, 5, 4);
+        y.change(1, 4, 2);
+        y.change(1, 5, 7);
+        y.go(1);
+        due.is("9 another one's words don't lead", y.wordOf(1, 2), 7);
     }
 
     private static void followsInOrder() {
@@ -223,7 +255,7 @@ public final class BoardTest {
         x.go(4);
         x.say(1, 0);
         x.go(3);
-        x.say(0, 3);
+        x.say(0, 5);
         x.go(200);
         x.say(0, 5);
         x.go(2);
@@ -244,6 +276,7 @@ public final class BoardTest {
         }
         x.say(2, 1);
         due.is("13 a gap of 0", x.sign(2, 2), 0);
+        due.is("13 the first thing told counts", x.sign(0, 6), 2);
         due.is("13 hours go round", x.hours(2), 4);
     }
 

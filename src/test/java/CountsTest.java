@@ -97,7 +97,7 @@ public final class CountsTest {
         due.is("32 b -1", x.many(1, -1), Due.BEYOND);
     }
 
-    /** Name 0 says a word in each of these hours, day by day. */
+    /** Name 0 says a word in each of these hours, day by day; name 1 does so 3 hours later at most. */
     private static AwakeBoard inHours(int... hours) {
         AwakeBoard x = new AwakeBoard();
         x.name(0, 999);
@@ -111,6 +111,7 @@ public final class CountsTest {
                 now = x.go(Math.min(then - now, 999));
             }
             x.say(0, day % 10);
+            now = x.go(hours[day] < 7 ? 300 : 1);
             x.say(1, 0);
         }
         return x;
@@ -137,6 +138,11 @@ public final class CountsTest {
         due.is("33 cut it would be 1", inHours(1, 0, 1, 1).sold(0), 2);
         // 0, 1, 0: k = 1: 1/2; k = 2: 1/2.
         due.is("33 two alike", inHours(0, 1, 0).sold(0), 1);
+        // Name 1 has words in hours 9, 4, 4: k = 1: 81 + 32; k = 2: 169/2 + 16. Name 0 in 6, 1, 1.
+        due.is("33 of the other one", inHours(6, 1, 1).sold(1), 1);
+        // Name 0 in 0, 3, 6, 7: k = 2: 9/2 + 169/2; name 1 in 3, 6, 9, 7: k = 1: 9 + 484/3.
+        due.is("33 its own words", inHours(0, 3, 6, 7).sold(1), 1);
+        due.is("33 its own words", inHours(0, 3, 6, 7).sold(0), 2);
     }
 
     private static void seed() {

@@ -7,6 +7,9 @@ public final class ImagesTest {
         undoKeepsTapeAndSheets();
         imageAgain();
         undoOfTexts();
+        undoOfNames();
+        undoOfWords();
+        undoOfLost();
         tear();
         count();
         status();
@@ -103,6 +106,67 @@ public final class ImagesTest {
         Due.text(x, "33");
         due.is("44 another text 1", x.score(1, 0), 33);
         due.is("44 text 0", x.score(0, 0), 2);
+    }
+
+    /** A name that comes again where another one was undone is all as at first. */
+    private static void undoOfNames() {
+        AwakeBoard x = new AwakeBoard();
+        x.image();
+        for (int name = 0; name < 2; name++) {
+            x.name(2, 30);
+        }
+        int[] other = {0, 77, 5, 66, 0, 9};
+        for (int what = 1; what <= 5; what++) {
+            x.change(1, what, other[what]);
+        }
+        x.shut(1, true);
+        x.asked(1);
+        x.undo();
+        due.is("44 no names", x.count(0), 0);
+        x.name(2, 30);
+        x.name(4, 31);
+        int[] want = {4, 31, 1023, 0, -1, 0, 0, 0};
+        for (int what = 0; what <= 7; what++) {
+            due.is("2 as at first, " + what, x.nameOf(1, what), want[what]);
+        }
+        due.is("2 not asked", x.asked(1), 1);
+    }
+
+    private static void undoOfWords() {
+        AwakeBoard x = new AwakeBoard();
+        x.name(0, 999);
+        x.name(0, 999);
+        x.shut(0, true);
+        x.shut(1, true);
+        x.say(0, 4);
+        x.image();
+        x.go(3);
+        x.say(1, 5);
+        x.undo();
+        x.go(5);
+        x.say(1, 6);
+        x.image();
+        x.go(2);
+        x.say(0, 7);
+        x.undo();
+        int[][] want = {{0, 0, 4, -1}, {5, 1, 6, 0}};
+        for (int word = 0; word < 2; word++) {
+            for (int what = 0; what <= 3; what++) {
+                due.is("44 wordOf(" + word + ", " + what + ")", x.wordOf(word, what), want[word][what]);
+            }
+        }
+        due.is("44 words", x.count(2), 2);
+    }
+
+    private static void undoOfLost() {
+        AwakeBoard x = new AwakeBoard();
+        x.name(0, 1);
+        x.go(203);
+        x.image();
+        x.go(10);
+        due.is("46 lost", x.count(3), 13);
+        x.undo();
+        due.is("44 lost ones, too", x.count(3), 3);
     }
 
     private static void tear() {

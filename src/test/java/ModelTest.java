@@ -8,7 +8,8 @@ import java.util.TreeMap;
 
 /** Runs of calls drawn by a fixed seed: AwakeBoard must answer what PlainBoard answers. */
 public final class ModelTest {
-    private static final int RUNS = 3000;
+    /** java -Dawake.runs=3000 asks more of it than .ci/run does. */
+    private static final int RUNS = Integer.getInteger("awake.runs", 500);
     private static final int CALLS = 512;
     private static final String[] TEXTS = {"w", "g-l", "w*3-g/2", "(w<9)+h*f", "q-n", "-t*(g-30)", "((l=g)*40)-w/f",
         "n*n-20", "9999*9999*n", "w-100", "h<3=1", "(w", "2+", "w<g<l", "10000", "-------w", "((((((h))))))", "n%2",

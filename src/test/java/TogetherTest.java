@@ -97,6 +97,11 @@ public final class TogetherTest {
         y.say(0, 0);
         y.say(0, 0);
         due.is("25 the lower one has more", y.group(0, 0, 2, 1), 2);
+        AwakeBoard z = quiet(2);
+        z.say(0, 0);
+        z.say(0, 0);
+        z.say(1, 0);
+        due.is("25 word 0 counts", z.group(0, 0, 2, 1), 2);
     }
 
     private static void groupFindings() {
