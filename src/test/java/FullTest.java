@@ -23,9 +23,10 @@ public final class FullTest {
         }
         for (int i = 0; i < 6; i++) {
             Due.feed(x, "w*" + i);
-            while (x.count(5) < 78) {
-                x.feed(' ', 1);
+            for (int blanks = 0; blanks < 18; blanks++) {
+                x.feed(0x20202020, 4);
             }
+            x.feed(0x202020, 3);
             x.feed('+' << 8 | 'n', 2);
             due.is("17 text of 80 bytes", x.text(), i);
         }

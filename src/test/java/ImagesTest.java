@@ -1,4 +1,4 @@
-/** Promises 43 to 47: images, counts, status; and that a finding changes nothing else. */
+/** Promises 43 to 47: images, counts, status. */
 public final class ImagesTest {
     private static final Due due = new Due("ImagesTest");
 
@@ -13,7 +13,6 @@ public final class ImagesTest {
         tear();
         count();
         status();
-        findingsChangeNothing();
         due.end();
     }
 
@@ -241,63 +240,5 @@ public final class ImagesTest {
         x.go(0);
         x.undo();
         due.is("47 undo takes none back", x.status(-1), 17);
-    }
-
-    private static AwakeBoard busy() {
-        AwakeBoard x = new AwakeBoard();
-        for (int kind = 0; kind < 14; kind++) {
-            x.name(kind % 8, 3 + kind);
-        }
-        x.go(300);
-        for (int i = 0; i < 6; i++) {
-            Due.text(x, "w-" + i);
-        }
-        x.asked(4);
-        x.hold(2, 2);
-        x.sheet(0, 8, 10);
-        x.sheet(1, 16, 10);
-        Due.feed(x, "w+g");
-        for (int i = 0; i < 19; i++) {
-            x.feed(0x20202020, 4);
-        }
-        return x;
-    }
-
-    private static long stateOf(AwakeBoard x) {
-        long sum = 17;
-        for (int what = 0; what <= 8; what++) {
-            sum = sum * 31 + x.count(what);
-        }
-        for (int name = 0; name < 14; name++) {
-            for (int what = 0; what <= 7; what++) {
-                sum = sum * 31 + x.nameOf(name, what);
-            }
-        }
-        for (int word = 0; word < x.count(2); word += 7) {
-            sum = sum * 31 + x.wordOf(word, 1) * 100 + x.wordOf(word, 2);
-        }
-        for (int s = 0; s < 2; s++) {
-            sum = sum * 31 + x.judge(s);
-        }
-        return sum;
-    }
-
-    private static void findingsChangeNothing() {
-        AwakeBoard x = busy();
-        long before = stateOf(x);
-        int findings = x.status(-1);
-        int told = 0;
-        int[] answers = {
-            x.name(0, 5), x.name(9, 5), x.change(3, 1, 0), x.change(3, 4, 3), x.shut(14, true), x.go(1000),
-            x.say(0, 1), x.feed(1, 4), x.feed(1, 0), x.text(), x.shutAll(6, 0), x.asked(4), x.sample(100),
-            x.hold(10, 1), x.hold(0, 14), x.sheet(0, 8, -1), x.sheet(0, 8, 41), x.sheet(0, 9, 1), x.write(0, 10, 1),
-            x.write(2, 0, 1), x.copy(0, 0, 1, 0, 1), x.copy(0, 0, 0, 5, 6), x.load(2), x.undo(), x.next(3, -1),
-        };
-        for (int answer : answers) {
-            due.is("a finding " + told, answer <= Due.BEYOND && answer >= Due.SIZE ? 1 : 0, 1);
-            told++;
-        }
-        due.is("nothing changes", stateOf(x) == before ? 1 : 0, 1);
-        due.is("all are counted", x.status(-1), findings + told);
     }
 }
