@@ -39,6 +39,24 @@ final class Due {
         return board.text();
     }
 
+    /** Names that are SHUT, so that only words by hand come. */
+    static AwakeBoard quiet(int names) {
+        AwakeBoard x = new AwakeBoard();
+        for (int i = 0; i < names; i++) {
+            x.name(0, 999);
+            x.shut(i, true);
+        }
+        return x;
+    }
+
+    static int goTo(AwakeBoard x, int second) {
+        int now = x.count(1);
+        for (int step = 0; step < 40 && now < second; step++) {
+            now = x.go(Math.min(999, second - now));
+        }
+        return now;
+    }
+
     void end() {
         System.out.println(test + ": " + asked + " asked, " + wrong + " wrong");
         if (wrong != 0 || asked == 0) {

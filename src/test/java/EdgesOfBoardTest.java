@@ -52,24 +52,6 @@ public final class EdgesOfBoardTest {
         return x;
     }
 
-    /** Names that are SHUT, so that only words by hand come. */
-    private static AwakeBoard quiet(int names) {
-        AwakeBoard x = new AwakeBoard();
-        for (int i = 0; i < names; i++) {
-            x.name(0, 999);
-            x.shut(i, true);
-        }
-        return x;
-    }
-
-    private static int goTo(AwakeBoard x, int second) {
-        int now = x.count(1);
-        while (now < second) {
-            now = x.go(Math.min(999, second - now));
-        }
-        return now;
-    }
-
     private static void hourIsAHundredth() {
         AwakeBoard x = one(PERSON, 1);
         for (int hour = 0; hour < 10; hour++) {
@@ -211,7 +193,7 @@ public final class EdgesOfBoardTest {
     }
 
     private static void clubbedBehindItsLeader() {
-        AwakeBoard x = quiet(2);
+        AwakeBoard x = Due.quiet(2);
         x.name(CLUBBED, 999);
         x.shut(2, true);
         x.change(2, HOURS, 512);
@@ -231,7 +213,7 @@ public final class EdgesOfBoardTest {
         due.is("1 CLUBBED: no LEADER", x.speaks(2, 11), 0);
         due.is("1 CLUBBED: as a PERSON", x.speaks(2, 999), 1);
         due.is("1 CLUBBED: as a PERSON, out of HOURS", x.speaks(2, 0), 0);
-        AwakeBoard y = quiet(1);
+        AwakeBoard y = Due.quiet(1);
         y.name(CLUBBED, 999);
         y.shut(1, true);
         y.change(1, HOURS, 512);
@@ -241,7 +223,7 @@ public final class EdgesOfBoardTest {
     }
 
     private static void clubbedAtTheEnds() {
-        AwakeBoard x = quiet(1);
+        AwakeBoard x = Due.quiet(1);
         x.name(CLUBBED, 999);
         x.shut(1, true);
         x.change(1, HOURS, 512);
@@ -250,7 +232,7 @@ public final class EdgesOfBoardTest {
         x.say(0, 0);
         due.is("1 CLUBBED: a WORD in 0 isn't ahead of it", x.speaks(1, 0), 0);
         due.is("1 CLUBBED: behind 0", x.speaks(1, 1), 1);
-        goTo(x, 29998);
+        Due.goTo(x, 29998);
         x.say(0, 0);
         due.is("1 CLUBBED: in 29999", x.speaks(1, 29999), 1);
         x.go(1);
@@ -305,7 +287,7 @@ public final class EdgesOfBoardTest {
         y.go(1);
         y.say(1, 3);
         y.say(0, 3);
-        goTo(y, 1000);
+        Due.goTo(y, 1000);
         // Its words: in 0, by hand, and in 999; the other one's don't count.
         due.is("1 STEADY: how many WORDS it has itself", y.wordOf(4, 2), 2);
     }
@@ -330,7 +312,7 @@ public final class EdgesOfBoardTest {
         x.go(1);
         due.is("1 CLUBBED: no LEADER", x.wordOf(6, 2), 7);
         x.change(0, LEADER, 1);
-        goTo(x, 100);
+        Due.goTo(x, 100);
         due.is("1 CLUBBED: however long ago", x.wordOf(x.count(2) - 1, 2), 9);
         // By hand it tells what it is bidden.
         due.is("10 by hand it tells something else", x.wordOf(x.say(0, 2), 2), 2);
@@ -338,9 +320,9 @@ public final class EdgesOfBoardTest {
 
     private static void follows() {
         for (int later = 0; later <= 12; later++) {
-            AwakeBoard x = quiet(2);
+            AwakeBoard x = Due.quiet(2);
             x.say(0, 0);
-            goTo(x, later);
+            Due.goTo(x, later);
             x.say(1, 0);
             x.say(0, 0);
             boolean is = later >= 1 && later <= 9;
@@ -353,7 +335,7 @@ public final class EdgesOfBoardTest {
     }
 
     private static void followsTheLatest() {
-        AwakeBoard x = quiet(3);
+        AwakeBoard x = Due.quiet(3);
         x.say(0, 0);
         x.say(1, 0);
         x.go(1);
@@ -373,7 +355,7 @@ public final class EdgesOfBoardTest {
     }
 
     private static void wordsAtMost() {
-        AwakeBoard x = quiet(1);
+        AwakeBoard x = Due.quiet(1);
         for (int i = 0; i < 200; i++) {
             due.is("10 WORD " + i, x.say(0, i % 10), i);
         }
@@ -396,7 +378,7 @@ public final class EdgesOfBoardTest {
         due.is("46 WORDS", x.count(2), 200);
         due.is("46 LOST: the rest of that SECOND", x.count(3), 10);
         due.is("1 by numbers", x.wordOf(199, 1), 3);
-        due.is("9 to the end", goTo(x, 29999), 29999);
+        due.is("9 to the end", Due.goTo(x, 29999), 29999);
         due.is("46 LOST: all that came", x.count(3), 14 * 29999 - 200);
         x.shut(0, true);
         due.is("9 none is LOST by a finding", x.go(1), Due.STATE);
@@ -429,7 +411,7 @@ public final class EdgesOfBoardTest {
     private static void theLastSecond() {
         AwakeBoard x = one(0, 1);
         x.shut(0, true);
-        goTo(x, 29998);
+        Due.goTo(x, 29998);
         due.is("9 STATE: it would be 30000", x.go(2), Due.STATE);
         due.is("9 NOW stays", x.count(1), 29998);
         x.shut(0, false);
@@ -521,7 +503,7 @@ public final class EdgesOfBoardTest {
 
     /** Two names by turns, a second each: each WORD FOLLOWS the one ahead of it. */
     private static void belowAChain() {
-        AwakeBoard x = quiet(2);
+        AwakeBoard x = Due.quiet(2);
         for (int i = 0; i < 200; i++) {
             x.say(i % 2, 0);
             x.go(1);
@@ -536,36 +518,36 @@ public final class EdgesOfBoardTest {
     }
 
     private static void signsOfFewWords() {
-        AwakeBoard x = quiet(1);
+        AwakeBoard x = Due.quiet(1);
         int[][] want = {{0, 0, 0, 0, 0, 99, 0}, {1, 0, 0, 1, 0, 99, 1}, {2, 5, 5, 1, 0, 99, 1}, {3, 2, 0, 1, 0, 99, 2}};
         int[] gap = {0, 0, 5, 0};
         int[] topic = {0, 0, 0, 9};
         for (int words = 0; words < 4; words++) {
             if (words > 0) {
-                goTo(x, x.count(1) + gap[words]);
+                Due.goTo(x, x.count(1) + gap[words]);
                 x.say(0, topic[words]);
             }
             for (int what = 0; what <= 6; what++) {
                 due.is("13 sign " + what + " of " + words + " WORDS", x.sign(0, what), want[words][what]);
             }
         }
-        AwakeBoard far = quiet(1);
+        AwakeBoard far = Due.quiet(1);
         far.say(0, 0);
-        goTo(far, 29999);
+        Due.goTo(far, 29999);
         far.say(0, 0);
         due.is("13 the greatest g", far.sign(0, 1), 29999);
         due.is("13 the greatest l", far.sign(0, 2), 29999);
-        AwakeBoard all = quiet(1);
+        AwakeBoard all = Due.quiet(1);
         for (int i = 0; i < 10; i++) {
             all.say(0, i);
-            goTo(all, 100 * (i + 1));
+            Due.goTo(all, 100 * (i + 1));
         }
         due.is("13 all HOURS", all.sign(0, 3), 10);
         due.is("13 all that can be told", all.sign(0, 6), 10);
     }
 
     private static void signsOfFollowing() {
-        AwakeBoard x = quiet(2);
+        AwakeBoard x = Due.quiet(2);
         x.say(0, 0);
         x.go(9);
         x.say(1, 0);
@@ -587,16 +569,16 @@ public final class EdgesOfBoardTest {
     }
 
     private static void hoursAsASet() {
-        AwakeBoard x = quiet(2);
+        AwakeBoard x = Due.quiet(2);
         for (int hour = 0; hour < 10; hour++) {
-            goTo(x, 100 * hour);
+            Due.goTo(x, 100 * hour);
             x.say(0, 0);
             due.is("14 from HOUR 0 to " + hour, x.hours(0), (2 << hour) - 1);
-            goTo(x, 100 * hour + 99);
+            Due.goTo(x, 100 * hour + 99);
             x.say(1, 0);
             due.is("14 at the end of HOUR " + hour, x.hours(1), (2 << hour) - 1);
         }
-        goTo(x, 1000);
+        Due.goTo(x, 1000);
         x.say(0, 0);
         due.is("14 HOUR 0 again", x.hours(0), 1023);
         due.is("13 10 HOURS", x.sign(0, 3), 10);

@@ -37,29 +37,11 @@ public final class EdgesOfCountsTest {
         due.end();
     }
 
-    /** Names that are SHUT, so that only words by hand come. */
-    private static AwakeBoard quiet(int names) {
-        AwakeBoard x = new AwakeBoard();
-        for (int i = 0; i < names; i++) {
-            x.name(0, 999);
-            x.shut(i, true);
-        }
-        return x;
-    }
-
-    private static int goTo(AwakeBoard x, int second) {
-        int now = x.count(1);
-        while (now < second) {
-            now = x.go(Math.min(999, second - now));
-        }
-        return now;
-    }
-
     private static void togetherByT() {
         for (int off : new int[] {0, 1, 2, 98, 99, 100}) {
-            AwakeBoard x = quiet(2);
+            AwakeBoard x = Due.quiet(2);
             x.say(0, 0);
-            goTo(x, off);
+            Due.goTo(x, off);
             x.say(1, 0);
             for (int t : new int[] {0, 1, 2, 97, 98, 99}) {
                 int want = off <= t ? 1 : 0;
@@ -72,7 +54,7 @@ public final class EdgesOfCountsTest {
     }
 
     private static void togetherCountsTheOne() {
-        AwakeBoard x = quiet(3);
+        AwakeBoard x = Due.quiet(3);
         for (int i = 0; i < 3; i++) {
             x.say(0, 0);
         }
@@ -81,8 +63,8 @@ public final class EdgesOfCountsTest {
         due.is("24 one WORD of the other", x.together(1, 0, 0), 1);
         due.is("24 none of a silent one", x.together(2, 0, 99), 0);
         due.is("24 none with a silent one", x.together(0, 2, 99), 0);
-        due.is("24 both silent", quiet(2).together(0, 1, 99), 0);
-        goTo(x, 29999);
+        due.is("24 both silent", Due.quiet(2).together(0, 1, 99), 0);
+        Due.goTo(x, 29999);
         x.say(0, 0);
         x.say(2, 0);
         due.is("24 at the end", x.together(2, 0, 99), 1);
@@ -90,7 +72,7 @@ public final class EdgesOfCountsTest {
     }
 
     private static void groupByN() {
-        AwakeBoard x = quiet(2);
+        AwakeBoard x = Due.quiet(2);
         x.say(1, 0);
         for (int n = 1; n <= 5; n++) {
             x.say(0, 0);
@@ -105,7 +87,7 @@ public final class EdgesOfCountsTest {
     }
 
     private static void groupByNinetyNine() {
-        AwakeBoard x = quiet(2);
+        AwakeBoard x = Due.quiet(2);
         x.say(0, 0);
         for (int i = 0; i < 98; i++) {
             x.say(1, 0);
@@ -119,7 +101,7 @@ public final class EdgesOfCountsTest {
 
     /** 13 with 12, 12 with 11, and so on to 0: each two have a second of their own. */
     private static void groupsByOthersBetween() {
-        AwakeBoard x = quiet(14);
+        AwakeBoard x = Due.quiet(14);
         for (int i = 13; i > 0; i--) {
             x.say(i, 0);
             x.say(i - 1, 0);
@@ -136,9 +118,9 @@ public final class EdgesOfCountsTest {
 
     private static void groupsEmptyAndFull() {
         due.is("26 no NAMES", new AwakeBoard().groups(99, 1), 0);
-        due.is("26 one NAME", quiet(1).groups(0, 1), 1);
-        due.is("25 one NAME", quiet(1).group(0, 0, 1, 2), 1);
-        AwakeBoard x = quiet(14);
+        due.is("26 one NAME", Due.quiet(1).groups(0, 1), 1);
+        due.is("25 one NAME", Due.quiet(1).group(0, 0, 1, 2), 1);
+        AwakeBoard x = Due.quiet(14);
         due.is("26 silent ones are by themselves", x.groups(99, 1), 14);
         for (int i = 0; i < 14; i++) {
             x.say(i, 0);
@@ -152,18 +134,18 @@ public final class EdgesOfCountsTest {
     }
 
     private static void clubFromTo() {
-        AwakeBoard x = quiet(3);
-        goTo(x, 500);
+        AwakeBoard x = Due.quiet(3);
+        Due.goTo(x, 500);
         x.say(1, 0);
-        goTo(x, 599);
+        Due.goTo(x, 599);
         x.say(2, 0);
         int[][] cases = {{499, 0, 0}, {500, 0, 2}, {501, 0, 0}, {499, 1, 2}, {401, 98, 0}, {401, 99, 2}, {400, 99, 0},
             {500, 98, 2}, {500, 99, 6}, {501, 98, 4}, {599, 0, 4}, {600, 99, 0}, {0, 99, 0}};
         for (int[] one : cases) {
             due.is("27 club(" + one[0] + ", " + one[1] + ")", x.club(one[0], one[1]), one[2]);
         }
-        due.is("27 an empty board", quiet(1).club(0, 99), 0);
-        AwakeBoard y = quiet(14);
+        due.is("27 an empty board", Due.quiet(1).club(0, 99), 0);
+        AwakeBoard y = Due.quiet(14);
         for (int i = 0; i < 14; i++) {
             y.say(i, 0);
         }
@@ -172,14 +154,14 @@ public final class EdgesOfCountsTest {
     }
 
     private static void apartFromNoneToAll() {
-        AwakeBoard x = quiet(3);
+        AwakeBoard x = Due.quiet(3);
         due.is("28 both silent", x.apart(0, 1), 0);
         for (int hour = 0; hour < 10; hour++) {
-            goTo(x, 100 * hour);
+            Due.goTo(x, 100 * hour);
             x.say(0, 0);
             due.is("28 only one", x.apart(0, 2), hour + 1);
             due.is("28 only the other", x.apart(2, 0), hour + 1);
-            goTo(x, 100 * hour + 99);
+            Due.goTo(x, 100 * hour + 99);
             due.is("28 this HOUR", x.apart(0, 1), 1);
             x.say(1, 0);
             due.is("28 both", x.apart(0, 1), 0);
@@ -187,7 +169,7 @@ public final class EdgesOfCountsTest {
     }
 
     private static void countsOfAllAndNone() {
-        AwakeBoard x = quiet(14);
+        AwakeBoard x = Due.quiet(14);
         due.is("29 no WORDS", x.counts(-1, 0), 0);
         due.is("29 no WORDS, without all", x.counts(-1, ALL), 0);
         for (int i = 0; i < 200; i++) {
@@ -203,12 +185,12 @@ public final class EdgesOfCountsTest {
         due.is("29 0, without all", x.counts(0, ALL), 0);
         due.is("29 without no NAMES there are", new AwakeBoard().counts(-1, 0), 0);
         due.is("29 a set of no such NAME", new AwakeBoard().counts(-1, 1), Due.BEYOND);
-        due.is("29 a set with a NAME and none such", quiet(1).counts(-1, 3), Due.BEYOND);
-        due.is("30 a set with a NAME and none such", quiet(1).most(3), Due.BEYOND);
+        due.is("29 a set with a NAME and none such", Due.quiet(1).counts(-1, 3), Due.BEYOND);
+        due.is("30 a set with a NAME and none such", Due.quiet(1).most(3), Due.BEYOND);
     }
 
     private static void mostOfSeveral() {
-        AwakeBoard x = quiet(2);
+        AwakeBoard x = Due.quiet(2);
         due.is("30 no WORDS", x.most(0), Due.NONE);
         for (int topic = 9; topic >= 0; topic--) {
             x.say(0, topic);
@@ -224,7 +206,7 @@ public final class EdgesOfCountsTest {
     }
 
     private static void firstOfSeveral() {
-        AwakeBoard x = quiet(1);
+        AwakeBoard x = Due.quiet(1);
         for (int topic = 0; topic <= 9; topic++) {
             due.is("31 none yet tells " + topic, x.first(topic), Due.NONE);
             x.say(0, topic);
@@ -232,7 +214,7 @@ public final class EdgesOfCountsTest {
             due.is("31 the first one", x.first(topic), 2 * topic);
         }
         due.is("31 0 still", x.first(0), 0);
-        AwakeBoard y = quiet(1);
+        AwakeBoard y = Due.quiet(1);
         for (int i = 0; i < 200; i++) {
             y.say(0, i == 199 ? 8 : 1);
         }
@@ -240,7 +222,7 @@ public final class EdgesOfCountsTest {
     }
 
     private static void manyIsCut() {
-        AwakeBoard x = quiet(14);
+        AwakeBoard x = Due.quiet(14);
         due.is("32 all by all", x.many(ALL, ALL), 14);
         due.is("32 all by one", x.many(ALL, 1 << 13), 14);
         due.is("32 one by itself", x.many(1, 1), 1);
@@ -254,7 +236,7 @@ public final class EdgesOfCountsTest {
     }
 
     private static void soldOfFew() {
-        AwakeBoard x = quiet(2);
+        AwakeBoard x = Due.quiet(2);
         due.is("33 no WORD", x.sold(0), Due.NONE);
         x.say(0, 0);
         due.is("33 one WORD", x.sold(0), Due.NONE);
@@ -266,28 +248,28 @@ public final class EdgesOfCountsTest {
     }
 
     private static void soldAtItsEnds() {
-        AwakeBoard x = quiet(1);
+        AwakeBoard x = Due.quiet(1);
         for (int i = 0; i < 199; i++) {
             x.say(0, 0);
         }
-        goTo(x, 900);
+        Due.goTo(x, 900);
         x.say(0, 0);
         due.is("33 the last place", x.sold(0), 199);
-        AwakeBoard y = quiet(1);
-        goTo(y, 900);
+        AwakeBoard y = Due.quiet(1);
+        Due.goTo(y, 900);
         y.say(0, 0);
-        goTo(y, 1000);
+        Due.goTo(y, 1000);
         for (int i = 0; i < 199; i++) {
             y.say(0, 0);
         }
         due.is("33 the first place", y.sold(0), 1);
-        AwakeBoard z = quiet(1);
-        goTo(z, 900);
+        AwakeBoard z = Due.quiet(1);
+        Due.goTo(z, 900);
         for (int i = 0; i < 200; i++) {
             z.say(0, 0);
         }
         due.is("33 all alike, in HOUR 9", z.sold(0), 1);
-        AwakeBoard zero = quiet(1);
+        AwakeBoard zero = Due.quiet(1);
         for (int i = 0; i < 200; i++) {
             zero.say(0, 0);
         }
@@ -295,7 +277,7 @@ public final class EdgesOfCountsTest {
     }
 
     private static void drawsWrap() {
-        AwakeBoard x = quiet(1);
+        AwakeBoard x = Due.quiet(1);
         int z = 1;
         for (int i = 0; i < 40; i++) {
             due.is("35 one draw", x.sample(1), 1);
@@ -335,7 +317,7 @@ public final class EdgesOfCountsTest {
     }
 
     private static void tenSpots() {
-        AwakeBoard x = quiet(14);
+        AwakeBoard x = Due.quiet(14);
         for (int spot = 0; spot <= 9; spot++) {
             due.is("37 nothing at first", x.as(spot, 0), Due.MISSING);
             due.is("36 nothing instead of nothing", x.hold(spot, -1), 1);
@@ -355,7 +337,7 @@ public final class EdgesOfCountsTest {
 
     /** Whether a number that is written is told again as `want`, a NAME: THE READER finds it right. */
     private static void isTold(int bits, int v, int want) {
-        AwakeBoard x = quiet(14);
+        AwakeBoard x = Due.quiet(14);
         x.sheet(3, bits, 1);
         x.write(3, 0, v);
         x.say(Math.max(want, 0), 0);
@@ -389,7 +371,7 @@ public final class EdgesOfCountsTest {
 
     private static void numbersOfSheets() {
         for (int bits : new int[] {8, 16, 32}) {
-            AwakeBoard x = quiet(14);
+            AwakeBoard x = Due.quiet(14);
             for (int s = 0; s < 4; s++) {
                 due.is("38 40 numbers", x.sheet(s, bits, 40), 40);
                 due.is("39 the last one", x.write(s, 39, s + 1), 1);
@@ -411,7 +393,7 @@ public final class EdgesOfCountsTest {
     }
 
     private static void emptySheets() {
-        AwakeBoard x = quiet(2);
+        AwakeBoard x = Due.quiet(2);
         for (int bits : new int[] {8, 16, 32}) {
             due.is("38 no numbers", x.sheet(0, bits, 0), 0);
             due.is("39 no number 0", x.write(0, 0, 0), Due.BEYOND);
@@ -436,7 +418,7 @@ public final class EdgesOfCountsTest {
         for (int from = 0; from <= 14; from += 2) {
             for (int to = 0; to <= 14; to++) {
                 int n = 14 - Math.max(from, to);
-                AwakeBoard x = quiet(14);
+                AwakeBoard x = Due.quiet(14);
                 x.sheet(0, 16, 14);
                 for (int i = 0; i < 14; i++) {
                     x.write(0, i, i);
@@ -453,7 +435,7 @@ public final class EdgesOfCountsTest {
 
     private static void loadAtItsEnd() {
         for (int n = 0; n <= 40; n++) {
-            AwakeBoard x = quiet(1);
+            AwakeBoard x = Due.quiet(1);
             x.sheet(0, 8, n);
             due.is("41 of " + n + " numbers", x.load(0), n / 2);
             due.is("46 WORDS", x.count(2), n / 2);
@@ -461,7 +443,7 @@ public final class EdgesOfCountsTest {
         int[][] wrong = {{0, -1}, {0, 14}, {1, -1}, {1, 10}, {0, 127}, {1, 127}};
         for (int[] one : wrong) {
             for (int pair = 0; pair < 4; pair++) {
-                AwakeBoard x = quiet(14);
+                AwakeBoard x = Due.quiet(14);
                 x.sheet(0, 8, 8);
                 x.write(0, 2 * pair + one[0], one[1]);
                 due.is("41 it ends at " + one[1], x.load(0), pair);
@@ -469,7 +451,7 @@ public final class EdgesOfCountsTest {
                 due.is("47 that is no finding", x.status(-1), 0);
             }
         }
-        AwakeBoard x = quiet(14);
+        AwakeBoard x = Due.quiet(14);
         x.sheet(0, 8, 4);
         x.write(0, 0, 13);
         x.write(0, 1, 9);
@@ -487,7 +469,7 @@ public final class EdgesOfCountsTest {
 
     private static void loadWithoutRoom() {
         for (int words = 196; words <= 200; words++) {
-            AwakeBoard x = quiet(1);
+            AwakeBoard x = Due.quiet(1);
             for (int i = 0; i < words; i++) {
                 x.say(0, 0);
             }
@@ -502,7 +484,7 @@ public final class EdgesOfCountsTest {
     private static void judgeAtItsEnds() {
         for (int words = 0; words <= 4; words++) {
             for (int numbers = 0; numbers <= 4; numbers++) {
-                AwakeBoard x = quiet(5);
+                AwakeBoard x = Due.quiet(5);
                 x.sheet(0, 8, numbers);
                 for (int i = 0; i < words; i++) {
                     x.say(i + 1, 0);
@@ -558,7 +540,7 @@ public final class EdgesOfCountsTest {
         for (int what = 0; what <= 8; what++) {
             before[what] = x.count(what);
         }
-        goTo(x, 29999);
+        Due.goTo(x, 29999);
         x.seed(4);
         for (int i = 0; i < 14; i++) {
             x.shut(i, false);
@@ -578,7 +560,7 @@ public final class EdgesOfCountsTest {
     }
 
     private static void imageKeepsNoTape() {
-        AwakeBoard x = quiet(3);
+        AwakeBoard x = Due.quiet(3);
         x.feed('1', 1);
         x.sheet(0, 8, 3);
         x.write(0, 0, 2);
@@ -601,7 +583,7 @@ public final class EdgesOfCountsTest {
     }
 
     private static void tornImages() {
-        AwakeBoard x = quiet(1);
+        AwakeBoard x = Due.quiet(1);
         due.is("45 nothing", x.tear(), 0);
         due.is("44 NONE", x.undo(), Due.NONE);
         x.image();
@@ -628,7 +610,7 @@ public final class EdgesOfCountsTest {
         for (int i = 0; i < 20; i++) {
             x.feed(0, 4);
         }
-        goTo(x, 29999);
+        Due.goTo(x, 29999);
         for (int i = 0; i < 14; i++) {
             x.shut(i, true);
         }
@@ -642,7 +624,7 @@ public final class EdgesOfCountsTest {
     }
 
     private static void statusOfEach() {
-        AwakeBoard x = quiet(1);
+        AwakeBoard x = Due.quiet(1);
         x.hold(0, 0);
         for (int n = 1; n <= 30; n++) {
             due.is("47 BEYOND", x.go(0), Due.BEYOND);

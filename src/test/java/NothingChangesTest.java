@@ -91,12 +91,10 @@ public final class NothingChangesTest {
         for (int i = 0; i < 5; i++) {
             Due.text(x, "w-" + i);
         }
-        int now = x.go(15);
+        x.go(15);
         x.image();
         Due.text(x, "g");
-        while (now < 29999) {
-            now = x.go(Math.min(999, 29999 - now));
-        }
+        Due.goTo(x, 29999);
         x.sheet(0, 32, 4);
         x.write(0, 0, 1);
         Due.feed(x, "h*3");

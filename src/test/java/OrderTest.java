@@ -86,9 +86,7 @@ public final class OrderTest {
 
     private static void beyondAheadOfState() {
         AwakeBoard x = names(1);
-        while (x.count(1) < 29000) {
-            x.go(Math.min(999, 29000 - x.count(1)));
-        }
+        Due.goTo(x, 29000);
         due.is("9 go: n 1000 ahead of STATE", x.go(1000), Due.BEYOND);
         due.is("9 go: n most ahead of STATE", x.go(Due.MOST), Due.BEYOND);
         due.is("9 go: to the end", x.go(999), 29999);

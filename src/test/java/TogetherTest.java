@@ -13,17 +13,8 @@ public final class TogetherTest {
         due.end();
     }
 
-    private static AwakeBoard quiet(int names) {
-        AwakeBoard x = new AwakeBoard();
-        for (int i = 0; i < names; i++) {
-            x.name(0, 999);
-            x.shut(i, true);
-        }
-        return x;
-    }
-
     private static void together() {
-        AwakeBoard x = quiet(3);
+        AwakeBoard x = Due.quiet(3);
         x.say(0, 0);
         x.go(3);
         x.say(0, 0);
@@ -45,7 +36,7 @@ public final class TogetherTest {
     }
 
     private static void togetherFindings() {
-        AwakeBoard x = quiet(2);
+        AwakeBoard x = Due.quiet(2);
         due.is("24 the same", x.together(1, 1, 0), Due.BEYOND);
         due.is("24 a 2", x.together(2, 1, 0), Due.BEYOND);
         due.is("24 b 2", x.together(1, 2, 0), Due.BEYOND);
@@ -57,7 +48,7 @@ public final class TogetherTest {
     }
 
     private static void group() {
-        AwakeBoard x = quiet(6);
+        AwakeBoard x = Due.quiet(6);
         // In pairs: 4 and 5, then 2 and 5, then 1 and 3; 0 alone.
         int[][] pairs = {{4, 5}, {5, 2}, {1, 3}, {0, 0}};
         for (int[] pair : pairs) {
@@ -83,7 +74,7 @@ public final class TogetherTest {
     }
 
     private static void groupByEither() {
-        AwakeBoard x = quiet(2);
+        AwakeBoard x = Due.quiet(2);
         x.say(0, 0);
         x.say(1, 0);
         x.say(1, 0);
@@ -92,12 +83,12 @@ public final class TogetherTest {
         due.is("25 by the greater one", x.group(0, 0, 2, 1), 2);
         due.is("25 from the other", x.group(1, 0, 2, 0), 0);
         due.is("25 by 3 not", x.group(1, 0, 3, 0), 1);
-        AwakeBoard y = quiet(2);
+        AwakeBoard y = Due.quiet(2);
         y.say(1, 0);
         y.say(0, 0);
         y.say(0, 0);
         due.is("25 the lower one has more", y.group(0, 0, 2, 1), 2);
-        AwakeBoard z = quiet(2);
+        AwakeBoard z = Due.quiet(2);
         z.say(0, 0);
         z.say(0, 0);
         z.say(1, 0);
@@ -105,7 +96,7 @@ public final class TogetherTest {
     }
 
     private static void groupFindings() {
-        AwakeBoard x = quiet(2);
+        AwakeBoard x = Due.quiet(2);
         due.is("25 name 2", x.group(2, 0, 1, 0), Due.BEYOND);
         due.is("25 name -1", x.group(-1, 0, 1, 0), Due.BEYOND);
         due.is("25 t 100", x.group(0, 100, 1, 0), Due.BEYOND);
@@ -123,7 +114,7 @@ public final class TogetherTest {
     }
 
     private static void club() {
-        AwakeBoard x = quiet(4);
+        AwakeBoard x = Due.quiet(4);
         x.say(3, 0);
         x.go(10);
         x.say(1, 0);
@@ -143,7 +134,7 @@ public final class TogetherTest {
     }
 
     private static void apart() {
-        AwakeBoard x = quiet(3);
+        AwakeBoard x = Due.quiet(3);
         x.say(0, 0);
         x.go(100);
         x.say(0, 0);
