@@ -24,7 +24,7 @@ public final class LanguageTest {
     public static void main(String[] args) throws IOException {
         face();
         classesInside();
-        source(Files.readString(Path.of(System.getProperty("awake.source"))));
+        source(Files.readString(Path.of(System.getProperty("awake.root", "."), "src/main/java/AwakeBoard.java")));
         due.end();
     }
 
